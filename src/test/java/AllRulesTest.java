@@ -76,10 +76,15 @@ public final class AllRulesTest {
         odds(x, 1, 4, 0, 1, 12);
         odds(x, 1, 7, 0, 1, 12);
         odds(x, 1, 8, 0, 0, 1);
+        odds(x, 1, 8, 0, 0, 1);
         odds(x, 99, 3, 0, 2, 3);
         x.villages(3);
         x.year(0, 0);
         odds(x, 0, 9, 0, 0, 1);
+        // all say 0 here, each time again
+        odds(x, 0, 0, 0, 1, 1);
+        odds(x, 0, 0, 0, 1, 1);
+        odds(x, 0, 1, 0, 0, 1);
         Due.is("19 BAD", x.odds(0, 10, 0, 0), -1);
         Due.is("19 BAD", x.odds(0, -1, 0, 0), -1);
         Due.is("19 BAD", x.odds(0, 0, 0, 2), -1);
@@ -137,6 +142,7 @@ public final class AllRulesTest {
         Due.is("22 in YEAR 0", x.sure(0, 0), 3);
         Due.is("22 in YEAR 10 A counts for nothing", x.sure(10, 0), 3);
         Due.is("22 several", x.sure(1, 0), -3);
+        Due.is("22 VILLAGE 0", Due.of("year 0 at 0;").sure(0, 0), 0);
         Due.is("22 several alike", twoAlike().sure(20, 1), -3);
         for (int[] bad : BAD_WHEN) {
             Due.is("22 BAD", x.sure(bad[0], bad[1]), -1);
@@ -157,6 +163,7 @@ public final class AllRulesTest {
         Due.is("23 lost 0", Due.of("year 0 at 9;year 5 at 9;").leave(0), 0);
         // without 0 rule 1 is left (2 WORDS), without 1 rule 0 (1 WORD)
         Due.is("23 the fewest", Due.of("year 0 at 0;year 1 at 1;year 2 at 0;").leave(0), 1);
+        Due.is("23 the line stays", Due.of("year 0 at 1;year 1 at 2;year 2 at 3;").leave(0), -3);
         Due.is("23 none", Due.of("year 0 at 9;year 1 at 8;year 2 at 9;").leave(0), -3);
         Due.is("23 BAD", x.leave(-1), -1);
         Due.is("23 BAD", x.leave(10), -1);
@@ -202,6 +209,10 @@ public final class AllRulesTest {
             int inKind = i % 56;
             at[i] = i < 56 || inKind < 28 ? 3 : 3 + inKind / 7 - 3;
         }
+        FairNext y = new FairNext();
+        // from 70 on z falls on 57 of all SHARES, which is still of the first RULE with its 64
+        y.seed(70);
+        Due.is("26 the first RULE", y.draw(0, 0), 0);
         int z = 1;
         for (int i = 0; i < 300; i++) {
             z = z * 1103515245 + 12345;

@@ -71,6 +71,7 @@ public final class BookTest {
         text("villages 02;", 0);
         text("year 0 at 0;", 1);
         text("year 23 at 9 mark 9;", 1);
+        text("year 23 at 9 mark 0;", 1);
         text("  year   01  at 2   mark   03  ;  lost 2 ; ", 1);
         text("year 1 at 2;year 1 at 3;year 0 at 1;", 2);
         text("year 1 at 2;lost 1;", 0);
@@ -101,6 +102,8 @@ public final class BookTest {
         text("villages 5 5;", -111);
         text("village 5;", -100);
         text("villagess 5;", -100);
+        text("villagesa 5;", -100);
+        text("villagesz 5;", -100);
         text("Villages 5;", -100);
         text("mark 3;", -100);
         text("at", -100);
@@ -176,6 +179,10 @@ public final class BookTest {
         Due.is("3 no ROWS", x.many(4), 0);
         Due.is("3 no ROWS", x.row(0, 0), -99);
         Due.is("3 z stays", x.seed(0), 77);
+        Due.is("3 what was on THE TAPE", Due.read(x, "lost 1;lost 11;"), 0);
+        Due.is("3 is not read again", Due.read(x, "lost 1"), -106);
+        Due.is("3 is not read again", Due.read(x, "lost 1;lost 1"), -113);
+        Due.is("3 is not read again", Due.read(x, "los"), -100);
     }
 
     private static void year() {

@@ -23,8 +23,10 @@ public final class HostTest {
             Due.is("32 all 0", x.item(sort, sort, 39), 0);
         }
         x.put(0, 3, 5);
+        x.put(0, 0, 6);
         Due.is("32 anew", x.sheet(0, 0, 4), 1);
         Due.is("32 all 0", x.item(0, 0, 3), 0);
+        Due.is("32 all 0", x.item(0, 0, 0), 0);
         Due.is("32 of 4", x.item(0, 0, 4), -12);
         Due.is("32 missing", x.sheet(0, -1, -77), 1);
         Due.is("32 missing", x.item(0, 0, 0), -11);
@@ -107,6 +109,13 @@ public final class HostTest {
         Due.is("35 a RULE instead", x.taken(0, 12), -13);
         Due.is("35 a row instead", x.shelf(0, 1, 1), 1);
         Due.is("35 a row instead", x.taken(0, 0), -13);
+        x.shelf(0, 0, 0);
+        x.drop(0);
+        x.drop(0);
+        Due.is("35 the row came away", x.taken(0, 12), -11);
+        Due.is("35 the last of each", x.sheet(3, 1, 2), 1);
+        Due.is("35 the last of each", x.shelf(3, 1, 3), 1);
+        Due.is("35 the last of each", x.taken(3, 11), 2);
     }
 
     private static void shelfRefused() {
@@ -178,6 +187,10 @@ public final class HostTest {
         ran(5, 1, -26, 41, 20, 11, 40, 10, 40, 10);
         ran(5, 2, -3, 61, 12, 40, 10);
         ran(5, 3, -60, 60, 13, 41, 20, 11, 40, 10, 40, 10);
+        FairNext marked = third(4, 4);
+        Due.is("37 10 by 2, less its bit", marked.act(0, 2, 8), 4);
+        marked.shelf(3, 0, 2);
+        Due.is("37 on the last SHELF", marked.act(3, 0, 7), 7);
         FairNext x = third(0, 4);
         Due.is("37 wraps", x.act(0, 0, Integer.MAX_VALUE), Integer.MIN_VALUE + 1);
         Due.is("37 wraps", x.act(0, 1, 0x40000000), Integer.MIN_VALUE + 4);
@@ -252,6 +265,7 @@ public final class HostTest {
         }
         Due.is("39 BAD", x.many(-1), -1);
         Due.is("39 BAD", x.many(7), -1);
+        Due.is("39 LAST", Due.of("year 0 at 0;").many(3), 1);
         x.year(23, 0);
         Due.is("39 LAST", x.many(3), 24);
     }

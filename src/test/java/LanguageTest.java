@@ -41,6 +41,10 @@ public final class LanguageTest {
             due.add(name + " " + (Modifier.PUBLIC | Modifier.STATIC | Modifier.FINAL) + " int");
         }
         same("constants", due, constants);
+        Due.is("BAD", FairNext.BAD, -1);
+        Due.is("FULL", FairNext.FULL, -2);
+        Due.is("NONE", FairNext.NONE, -3);
+        Due.is("STATE", FairNext.STATE, -4);
         Due.is("constructors", FairNext.class.getDeclaredConstructors().length, 1);
         Constructor<FairNext> made = FairNext.class.getDeclaredConstructor();
         Due.is("the constructor", made.getModifiers(), Modifier.PUBLIC);

@@ -64,6 +64,13 @@ public final class RulesTest {
         Due.is("10 left", x.ruleOf(0, 2), 2);
         Due.is("10", x.drop(0), 0);
         Due.is("10 none", x.drop(0), -1);
+        FairNext six = Due.of("rule 0 0 1;rule 0 1 1;rule 0 2 1;rule 0 3 1;rule 0 4 1;line 0 0 1;");
+        Due.is("10 of six", six.drop(2), 5);
+        int[] left = {0, 1, 3, 4, 0};
+        for (int i = 0; i < 5; i++) {
+            Due.is("10 of six, B of " + i, six.ruleOf(i, 2), left[i]);
+        }
+        Due.is("10 of six, the last", six.ruleOf(4, 0), 1);
         Due.is("10 held again", x.hold(5, 1, 1, 1), 0);
         Due.is("10 held again", x.ruleOf(0, 0), 5);
     }
