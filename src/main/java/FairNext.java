@@ -477,6 +477,7 @@ public final class FairNext {
     }
 
     public int act(int shelf, int act, int x) {
+        // of a refused act there is no TRACE either
         thing.ranCount = 0;
         if (outside(shelf, 0, PLACES - 1) || outside(act, CALLS, TELLS)) {
             return 0;
@@ -1077,7 +1078,6 @@ public final class FairNext {
         }
 
         int answer(int act, int x) {
-            ranCount = 0;
             parted = false;
             int v = own(act, x, 0);
             return parted ? PARTED_BY_0 : v;
