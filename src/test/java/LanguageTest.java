@@ -22,6 +22,8 @@ public final class LanguageTest {
     public static void main(String[] args) throws Exception {
         face();
         words();
+        sizes();
+        objectsAreMadeOnce();
         Due.end("LanguageTest");
     }
 
@@ -106,6 +108,45 @@ public final class LanguageTest {
             String edge = word.matches("\\w.*") ? "\\b" : "";
             Due.is("no " + word, Pattern.compile(edge + "(" + word + ")" + (word.matches(".*\\w") ? "\\b" : ""))
                 .matcher(source).find() ? 1 : 0, 0);
+        }
+    }
+
+    // At most some twelve classes, seven parameters a method and sixty lines.
+    private static void sizes() throws Exception {
+        List<Class<?>> classes = new ArrayList<>(List.of(FairNext.class.getDeclaredClasses()));
+        classes.add(FairNext.class);
+        Due.is("at most twelve classes, there are " + classes.size(), classes.size() <= 12 ? 1 : 0, 1);
+        for (Class<?> c : classes) {
+            Due.is("no class further inside: " + c, c == FairNext.class ? 0 : c.getDeclaredClasses().length, 0);
+            for (Method m : c.getDeclaredMethods()) {
+                Due.is("at most seven parameters: " + m, m.getParameterCount() <= 7 ? 1 : 0, 1);
+                Due.is("no more than int, long, boolean, arrays, String and own classes: " + m, allowed(m, classes) ? 1 : 0, 1);
+            }
+        }
+        Matcher m = Pattern.compile("(?m)^( {4}| {8})[^\\s/}].*\\) \\{\n(.*\n)*?\\1\\}$").matcher(Files.readString(Path.of(SOURCE)));
+        int methods = 0;
+        while (m.find()) {
+            methods++;
+            String head = m.group().substring(0, m.group().indexOf('\n')).trim();
+            Due.is("at most sixty lines: " + head, m.group().lines().count() <= 60 ? 1 : 0, 1);
+        }
+        Due.is("methods found", methods > 100 ? 1 : 0, 1);
+    }
+
+    private static boolean allowed(Method m, List<Class<?>> own) {
+        List<Class<?>> types = new ArrayList<>(List.of(m.getParameterTypes()));
+        types.add(m.getReturnType());
+        types.removeAll(List.of(int.class, long.class, boolean.class, void.class, int[].class, String.class));
+        types.removeAll(own);
+        return types.isEmpty();
+    }
+
+    // Objects and arrays come into being with the object alone: no line within a method makes one.
+    private static void objectsAreMadeOnce() throws Exception {
+        for (String line : Files.readAllLines(Path.of(SOURCE))) {
+            if (line.matches(".*\\bnew\\b.*;") && !line.trim().startsWith("//")) {
+                Due.is("made with a field: " + line.trim(), line.matches("( {4}private| {8}) ?final .*") ? 1 : 0, 1);
+            }
         }
     }
 }
